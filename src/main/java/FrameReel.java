@@ -319,7 +319,7 @@ public final class FrameReel {
             }
         }
 
-        /** Leaves the pixels of the default picture as they are: reading fills them anyway. */
+        /** Leaves plays and the default picture's pixels as they are: reading fills them anyway. */
         void start(int newWidth, int newHeight) {
             there = true;
             firstIsDefault = false;
@@ -327,7 +327,6 @@ public final class FrameReel {
             height = newHeight;
             own.width = newWidth;
             own.height = newHeight;
-            plays = 0;
             count = 0;
         }
 
@@ -749,7 +748,6 @@ public final class FrameReel {
         Reel exchange(Reel old) {
             Reel filled = reel;
             reel = old;
-            picture = old.own;
             return filled;
         }
 

@@ -91,6 +91,10 @@ final class PackedTest {
                 fault("a length that is not its turned one", wrong);
             }
         }
+        fault("turned wrong, without data", new BitRow().plain(false, DOT).block(true, 0).toByte()
+            .number(0, 16).number(0, 16).end(DOT));
+        fault("no data but the sum", new BitRow().plain(false, DOT).block(true, 0).toByte()
+            .number(100, 16).number(~100, 16).end(DOT));
         fault("a plain block that is not all there", new BitRow().block(true, 0).toByte()
             .number(30, 16).number(~30, 16).fixed(DOT).end(DOT));
         fault("kind 3", new BitRow().block(true, 3).end(new byte[0]));
@@ -146,6 +150,22 @@ final class PackedTest {
                 match(random, 4, 0, 0, k, (1 << bits) - 1, bits);
             }
         }
+        for (int more = 0; more <= 13; more++) {
+            farthest(random, more);
+        }
+    }
+
+    /** The last three bytes of 16 x 16 from as far back as there can be something. */
+    private static void farthest(Random random, int more) {
+        byte[] rows = new byte[16 * 65];
+        for (int k = 0; k < rows.length; k++) {
+            rows[k] = (byte) (k < 1037 ? random.nextInt(5) : k - 1025 - more < 0 ? 0
+                : rows[k - 1025 - more]);
+        }
+        byte[] packed = new BitRow().plain(false, Arrays.copyOf(rows, 1037)).block(true, 1)
+            .match(257, 0, 0, 20, more, 9).fixed(256).end(rows);
+        due.is("distance " + (1025 + more), answer(packed, 16, 16, new FrameReel()),
+            more <= 12 ? 1 : -5);
     }
 
     /** Bytes without a pattern, the match, and plain bytes up to the end of 16 x 16. */
@@ -170,14 +190,19 @@ final class PackedTest {
     }
 
     private static void noSuchSymbols() {
-        byte[] six = new byte[6];
         for (int symbol : new int[] {286, 287}) {
-            fault("symbol " + symbol, new BitRow().block(true, 1).fixed(six)
-                .match(symbol, 0, 0, 0, 0, 0).fixed(256).end(six));
+            fault("symbol " + symbol, new BitRow().block(true, 1).fixed(DOT)
+                .match(symbol, 0, 0, 0, 0, 0).fixed(256).end(DOT));
+            fault("symbol " + symbol + " alone", new BitRow().block(true, 1).fixed(DOT)
+                .fixed(symbol).fixed(256).end(DOT));
+            fault("symbol " + symbol + " at last", new BitRow().block(true, 1).fixed(DOT)
+                .fixed(symbol).end(DOT));
         }
         for (int far : new int[] {30, 31}) {
-            fault("distance " + far, new BitRow().block(true, 1).fixed(six)
-                .match(257, 0, 0, far, 0, 13).fixed(256).end(six));
+            fault("distance " + far, new BitRow().block(true, 1).fixed(DOT)
+                .match(257, 0, 0, far, 0, 13).fixed(256).end(DOT));
+            fault("distance " + far + " without more", new BitRow().block(true, 1).fixed(DOT)
+                .match(257, 0, 0, far, 0, 0).fixed(256).end(DOT));
         }
     }
 
@@ -189,6 +214,12 @@ final class PackedTest {
             .match(257, 0, 0, 1, 0, 0).fixed(256).end(zeros), 1, 1, zeros);
         fault("one too far", new BitRow().block(true, 1).fixed(0).fixed(0)
             .match(257, 0, 0, 2, 0, 0).fixed(256).end(zeros));
+        fault("one too far, put out as 255", new BitRow().block(true, 1).fixed(0).fixed(0)
+            .match(257, 0, 0, 2, 0, 0).fixed(256).end(new byte[] {0, 0, -1, 0, 0}));
+        fault("too far, and put out nothing", new BitRow().block(true, 1).fixed(DOT)
+            .match(257, 0, 0, 4, 1, 1).fixed(256).end(DOT));
+        fault("too far at last", new BitRow().block(true, 1).fixed(DOT)
+            .match(257, 0, 0, 4, 1, 1).end(DOT));
         fault("much too far", new BitRow().block(true, 1).fixed(0).fixed(0)
             .match(257, 0, 0, 29, 8191, 13).fixed(256).end(zeros));
     }
@@ -297,29 +328,43 @@ final class PackedTest {
         for (int n = 4; n < 19; n++) {
             tellerCount(n);
         }
+        // Lengths of tellers that are not told are 0, whatever a block before told.
+        int[] s = fewSymbols();
+        BitRow row = new BitRow().block(false, 2).told(s, new int[] {0});
+        dot("few tellers behind many", coded(eightOrNone(coded(row, s, 0, 1, 256).block(true, 2),
+            5), EIGHTS, 2, 3, 4, 256).end(DOT));
     }
 
-    /** Only n lengths of tellers, those of 0 and 8 (or of 0 and 16) being 1. */
-    private static void tellerCount(int n) {
-        int[] s = new int[257];
-        Arrays.fill(s, 0, 256, 8);
-        BitRow row = new BitRow().block(true, 2).number(0, 5).number(0, 5).number(n - 4, 4);
+    // 256 codes of eight bits: 0 .. 254 and the end.
+    private static final int[] EIGHTS = eights();
+
+    private static int[] eights() {
+        int[] lengths = new int[257];
+        Arrays.fill(lengths, 8);
+        lengths[255] = 0;
+        return lengths;
+    }
+
+    /** The head of a told block with n lengths of tellers, those of 0 and 8 being 1. */
+    private static BitRow eightOrNone(BitRow row, int n) {
+        row.number(0, 5).number(0, 5).number(n - 4, 4);
         for (int k = 0; k < n; k++) {
             int teller = BitRow.TELLER_ORDER[k];
-            row.number(teller == 0 || teller == (n > 4 ? 8 : 16) ? 1 : 0, 3);
+            row.number(teller == 0 || teller == 8 ? 1 : 0, 3);
         }
-        for (int k = 0; k < 255; k++) {
-            row.code(1, 1);
+        for (int length : EIGHTS) {
+            row.code(length == 8 ? 1 : 0, 1);
         }
-        row.code(0, 1).code(1, 1).code(0, 1);
-        int[] lengths = new int[257];
-        Arrays.fill(lengths, 0, 255, 8);
-        lengths[256] = 8;
-        coded(row, lengths, 0, 1, 2, 3, 4, 256);
+        return row.code(0, 1);
+    }
+
+    private static void tellerCount(int n) {
+        byte[] packed = coded(eightOrNone(new BitRow().block(true, 2), n), EIGHTS,
+            0, 1, 2, 3, 4, 256).end(DOT);
         if (n == 4) {
-            fault("16 at first, of 4 tellers", row.end(DOT));
+            fault("4 tellers, 0 alone having a code", packed);
         } else {
-            dot(n + " tellers", row.end(DOT));
+            dot(n + " tellers", packed);
         }
     }
 

@@ -160,6 +160,9 @@ final class ReelTest {
         due.is("it stays", reel.about(4, 0), 0);
         reel.begin(2, 2, 0);
         reel.frame(2, 2, 0, 0, 0, 0);
+        reel.begin(2, 2, 0);
+        due.is("the reel before had a frame", reel.first(true), FrameReel.STATE);
+        reel.frame(2, 2, 0, 0, 0, 0);
         reel.paint(-1, 0, 0, 5);
         reel.paint(0, 0, 0, 6);
         due.is("the first frame's", reel.first(true), 1);

@@ -84,5 +84,11 @@ final class TapeTest {
         due.is("one byte beyond 8000", reel.type(0, 1), FrameReel.ROOM);
         due.is("a full tape is read", reel.read(), -1);
         due.is("and is empty then", reel.type(0, 1), 1);
+
+        reel = new FrameReel();
+        for (int k = 1; k <= 500; k++) {
+            due.is("words up to 8000", reel.words(k, k, k, k), 16 * k);
+        }
+        due.is("words behind 8000", reel.words(0, 0, 0, 0), FrameReel.ROOM);
     }
 }

@@ -8,6 +8,8 @@ final class WriteTest {
         firstIsDefault();
         defaultOfItsOwn();
         negativePlays();
+        longRows();
+        twice();
         refuses();
         latest();
         greatest();
@@ -78,6 +80,31 @@ final class WriteTest {
         reel.read();
         wrote("what was read", reel, new Made().head(1, 1).counts(1, -5)
             .chunk("fcTL", control(0, 1, 1, 0, 0, 1, 0)).chunk("IDAT", packed(1, 1, 3)).end());
+    }
+
+    private static void longRows() {
+        FrameReel reel = new FrameReel();
+        reel.begin(8, 8, 1);
+        reel.frame(8, 8, 0, 0, 0, 0);
+        int[] pixels = new int[64];
+        for (int k = 0; k < 64; k++) {
+            pixels[k] = -k * 0x01234567;
+            reel.paint(0, k % 8, k / 8, pixels[k]);
+        }
+        reel.first(true);
+        wrote("more than 255 bytes of rows", reel, new Made().head(8, 8).counts(1, 1)
+            .chunk("fcTL", control(0, 8, 8, 0, 0, 0, 0)).chunk("IDAT", packed(8, 8, pixels))
+            .end());
+    }
+
+    private static void twice() {
+        FrameReel reel = new FrameReel();
+        reel.begin(1, 1, 0);
+        reel.frame(1, 1, 0, 0, 0, 0);
+        reel.write();
+        wrote("written twice", reel, new Made().head(1, 1).counts(1, 0)
+            .chunk("IDAT", packed(1, 1, 0)).chunk("fcTL", control(0, 1, 1, 0, 0, 0, 0))
+            .chunk("fdAT", Made.joined(Made.numbers(1), packed(1, 1, 0))).end());
     }
 
     private static void refuses() {
