@@ -40,8 +40,12 @@ final class BitRow {
 
     /** Fills the byte that was begun with bits that nobody should look at. */
     BitRow toByte() {
+        return toByte(1);
+    }
+
+    BitRow toByte(int filling) {
         while (heldBits != 0) {
-            bit(1);
+            bit(filling);
         }
         return this;
     }
@@ -51,7 +55,12 @@ final class BitRow {
     }
 
     BitRow plain(boolean isLast, byte... data) {
-        block(isLast, 0).toByte().number(data.length, 16).number(~data.length, 16);
+        return plainWith(1, isLast, data);
+    }
+
+    /** A plain block whose bits that are left out are these. */
+    BitRow plainWith(int filling, boolean isLast, byte... data) {
+        block(isLast, 0).toByte(filling).number(data.length, 16).number(~data.length, 16);
         for (byte b : data) {
             number(b, 8);
         }
@@ -106,8 +115,24 @@ final class BitRow {
         return this;
     }
 
-    /** A symbol by its lengths, as the document tells codes. */
-    BitRow coded(int[] lengths, int symbol) {
+    /** Lengths for the bytes 0 .. 4, the end, and a match of 3. */
+    static int[] fewSymbols() {
+        int[] symbols = new int[258];
+        java.util.Arrays.fill(symbols, 0, 5, 3);
+        symbols[256] = 3;
+        symbols[257] = 2;
+        return symbols;
+    }
+
+    /** Symbols by their lengths, as the document tells codes. */
+    BitRow coded(int[] lengths, int... symbols) {
+        for (int symbol : symbols) {
+            codeOf(lengths, symbol);
+        }
+        return this;
+    }
+
+    private BitRow codeOf(int[] lengths, int symbol) {
         int lowest = 0;
         for (int l = 1; l < lengths[symbol]; l++) {
             lowest = 2 * (lowest + many(lengths, l, lengths.length));

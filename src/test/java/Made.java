@@ -9,9 +9,13 @@ import java.util.zip.Deflater;
 /** A file in the making, right or wrong as a test asks; its sums and packing are the library's. */
 final class Made {
     static final byte[] SIGNATURE = {(byte) 137, 80, 78, 71, 13, 10, 26, 10};
+    static final int DOT_COLOUR = 0x11223344;
+    /** The packed bytes of one pixel. */
+    static final byte[] DOT = picture(1, 1, DOT_COLOUR);
 
-    private final ByteArrayOutputStream all = new ByteArrayOutputStream();
+    private ByteArrayOutputStream all = new ByteArrayOutputStream();
     private int serial = 0;
+    private int marked = -1;
 
     Made() {
         all.writeBytes(SIGNATURE);
@@ -22,9 +26,29 @@ final class Made {
         return new Made().head(width, height).counts(frames, 0);
     }
 
+    /** A canvas of one pixel, up to the IDAT of its only frame. */
+    static Made beforeDot() {
+        return started(1, 1, 1).control(1, 1, 0, 0, 0, 0);
+    }
+
+    /** A canvas of one pixel, up to the fdAT of its only frame. */
+    static Made beforeFrameDot() {
+        return started(1, 1, 1).data(DOT).control(1, 1, 0, 0, 0, 0);
+    }
+
     /** The place of the type of the chunk that comes next. */
     int next() {
         return all.size() + 4;
+    }
+
+    /** Keeps the place of the type of the chunk that comes next. */
+    Made mark() {
+        marked = next();
+        return this;
+    }
+
+    int marked() {
+        return marked;
     }
 
     int size() {
@@ -35,11 +59,17 @@ final class Made {
         return all.toByteArray();
     }
 
-    Made raw(int... bytes) {
-        for (int b : bytes) {
-            all.write(b);
-        }
+    Made raw(byte... bytes) {
+        all.writeBytes(bytes);
         return this;
+    }
+
+    /** Turns a bit of the last byte, so that the sum of the last chunk is another one. */
+    Made turnLast() {
+        byte[] bytes = bytes();
+        bytes[bytes.length - 1] ^= 1;
+        all = new ByteArrayOutputStream();
+        return raw(bytes);
     }
 
     Made chunk(String type, byte... data) {
@@ -75,12 +105,22 @@ final class Made {
         return joined(numbers(serial, width, height, x, y, 0x00FF1234), small(dispose, blend));
     }
 
+    /** A fcTL whose serial is the test's own. */
+    Made controlOf(int itsSerial, int width, int height) {
+        return chunk("fcTL", controlData(itsSerial, width, height, 0, 0, 0, 0));
+    }
+
     Made data(byte[] packed) {
         return chunk("IDAT", packed);
     }
 
     Made frameData(byte[] packed) {
         return chunk("fdAT", joined(numbers(serial++), packed));
+    }
+
+    /** A fdAT whose serial is the test's own. */
+    Made frameDataOf(int itsSerial, byte[] packed) {
+        return chunk("fdAT", joined(numbers(itsSerial), packed));
     }
 
     Made end() {

@@ -278,28 +278,16 @@ final class PackedTest {
         }
     }
 
-    /** Lengths for the bytes 0 .. 4, the end, and a match of 3. */
-    private static int[] fewSymbols() {
-        int[] symbols = new int[258];
-        Arrays.fill(symbols, 0, 5, 3);
-        symbols[256] = 3;
-        symbols[257] = 2;
-        return symbols;
-    }
-
     private static BitRow told(int[] symbols, int... distances) {
         return new BitRow().block(true, 2).told(symbols, distances);
     }
 
     private static BitRow coded(BitRow row, int[] lengths, int... symbols) {
-        for (int symbol : symbols) {
-            row.coded(lengths, symbol);
-        }
-        return row;
+        return row.coded(lengths, symbols);
     }
 
     private static void toldPlainly() {
-        int[] s = fewSymbols();
+        int[] s = BitRow.fewSymbols();
         byte[] twos = {0, 2, 2, 2, 2};
         dot("told bytes", coded(told(s, 0), s, 0, 1, 2, 3, 4, 256).end(DOT));
         puts("a told match", coded(told(s, 1, 1), s, 0, 2, 257).code(0, 1).coded(s, 256).end(twos),
@@ -313,7 +301,7 @@ final class PackedTest {
 
     private static void toldCounts() {
         for (int n = 257; n <= 288; n++) {
-            int[] s = Arrays.copyOf(fewSymbols(), Math.max(n, 258));
+            int[] s = Arrays.copyOf(BitRow.fewSymbols(), Math.max(n, 258));
             int want = n <= 286 ? 1 : -5;
             if (n > 257) {
                 due.is(n + " symbols", answer(coded(told(s, 0), s, 0, 1, 2, 3, 4, 256).end(DOT),
@@ -321,7 +309,7 @@ final class PackedTest {
             }
         }
         for (int n = 1; n <= 32; n++) {
-            int[] s = fewSymbols();
+            int[] s = BitRow.fewSymbols();
             due.is(n + " distances", answer(coded(told(s, new int[n]), s, 0, 1, 2, 3, 4, 256)
                 .end(DOT), 1, 1, new FrameReel()), n <= 30 ? 1 : -5);
         }
@@ -329,7 +317,7 @@ final class PackedTest {
             tellerCount(n);
         }
         // Lengths of tellers that are not told are 0, whatever a block before told.
-        int[] s = fewSymbols();
+        int[] s = BitRow.fewSymbols();
         BitRow row = new BitRow().block(false, 2).told(s, new int[] {0});
         dot("few tellers behind many", coded(eightOrNone(coded(row, s, 0, 1, 256).block(true, 2),
             5), EIGHTS, 2, 3, 4, 256).end(DOT));
@@ -388,7 +376,7 @@ final class PackedTest {
     }
 
     private static void toldRepeats() {
-        int[] s = fewSymbols();
+        int[] s = BitRow.fewSymbols();
         // 0 .. 4: 3, then 251 times 0, 256: 3, 257: 2, then one distance 0.
         BitRow row = teller(teller(repeating(258, 1), 3), 16).number(1, 2);
         teller(teller(row, 18).number(127, 7), 18).number(251 - 138 - 11, 7);
@@ -423,7 +411,7 @@ final class PackedTest {
     }
 
     private static void toldTellers() {
-        int[] s = fewSymbols();
+        int[] s = BitRow.fewSymbols();
         int[][] wrong = {
             tellerLengths(0, 1, 1, 1, 2, 1), tellerLengths(0, 2, 2, 2, 3, 2), tellerLengths(0, 1),
             tellerLengths(), tellerLengths(0, 1, 2, 2, 3, 3)};
@@ -443,13 +431,13 @@ final class PackedTest {
     }
 
     private static void toldSymbols() {
-        int[] s = fewSymbols();
+        int[] s = BitRow.fewSymbols();
         s[5] = 3;
         fault("more symbols than can be", coded(told(s, 0), s, 0, 1, 2, 3, 4, 256).end(DOT));
-        s = fewSymbols();
+        s = BitRow.fewSymbols();
         s[257] = 3;
         fault("fewer symbols", coded(told(s, 0), s, 0, 1, 2, 3, 4, 256).end(DOT));
-        s = fewSymbols();
+        s = BitRow.fewSymbols();
         s[5] = 3;
         s[256] = 0;
         fault("no end has a code", coded(told(s, 0), s, 0, 1, 2, 3, 4).end(DOT));
@@ -462,7 +450,7 @@ final class PackedTest {
     }
 
     private static void toldDistances() {
-        int[] s = fewSymbols();
+        int[] s = BitRow.fewSymbols();
         int[][] right = {{0}, {1}, {0, 1}, {1, 1}, {0, 0, 0}, {1, 2, 2}, {2, 2, 2, 2}};
         int[][] wrong = {{2}, {15}, {1, 2}, {2, 2}, {2, 2, 2}, {1, 1, 1}, {1, 2, 2, 2}, {1, 15},
             {1, 1, 15}};

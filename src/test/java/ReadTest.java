@@ -144,11 +144,8 @@ final class ReadTest {
 
     private static void lengthsTooGreat() {
         for (int n : new int[] {1, 2, Integer.MAX_VALUE, -1, Integer.MIN_VALUE, -13}) {
-            Made file = new Made().head(1, 1);
-            for (byte b : Made.joined(Made.numbers(n), "acTL".getBytes(StandardCharsets.US_ASCII),
-                    Made.numbers(0))) {
-                file.raw(b);
-            }
+            Made file = new Made().head(1, 1).raw(Made.numbers(n))
+                .raw("acTL".getBytes(StandardCharsets.US_ASCII)).raw(Made.numbers(0));
             faulty("a chunk of " + n + " bytes that are not there", file, 2, file.size());
         }
     }
@@ -332,7 +329,7 @@ final class ReadTest {
         faulty("no fcTL at all", file.end(), 4, place);
         file = dotStarted().data(DOT).end();
         place = file.size();
-        faulty("a byte behind IEND", file.raw(0), 4, place);
+        faulty("a byte behind IEND", file.raw((byte) 0), 4, place);
         faulty("more behind IEND", file.end(), 4, place);
     }
 
@@ -391,7 +388,7 @@ final class ReadTest {
         FrameReel reel = new FrameReel();
         due.read("two frames", reel, twoFrames().bytes(), 2, FrameReel.NONE);
         reel.show(1);
-        byte[] wrong = Made.started(1, 1, 1).control(1, 1, 0, 0, 0, 0).data(DOT).end().raw(7)
+        byte[] wrong = Made.started(1, 1, 1).control(1, 1, 0, 0, 0, 0).data(DOT).end().raw((byte) 7)
             .bytes();
         due.read("a fault at the end", reel, wrong, -4, wrong.length - 1);
         due.is("the reel stays", reel.about(0, 0), 4);
