@@ -147,8 +147,8 @@ final class CallEdgeTest {
         for (int k = 0; k < n / 16; k++) {
             reel.words(-1, -1, -1, -1);
         }
-        for (int k = 0; k < n % 16; k++) {
-            reel.type(-1, 1);
+        for (int rest = n % 16; rest > 0; rest -= 4) {
+            reel.type(-1, Math.min(rest, 4));
         }
         return reel;
     }
@@ -341,7 +341,7 @@ final class CallEdgeTest {
         due.is("its place", reel.place(), 0);
         Made full = new Made().head(1, 1);
         full.chunk("abcd", new byte[8000 - 12 - full.size()]);
-        due.read("the greatest place", reel, full.bytes(), -2, 8000);
+        due.read("the greatest place", new FrameReel(), full.bytes(), -2, 8000);
     }
 
     private static void beginNew() {
@@ -790,8 +790,8 @@ final class CallEdgeTest {
     private static void writeOrder() {
         due.sentence("write: IHDR; acTL; if the default picture is the first frame's its fcTL; one"
             + " IDAT; for each other frame fcTL, one fdAT; IEND.");
+        isMade("its own", readAgain(made()), false);
         FrameReel first = made();
-        isMade("its own", readAgain(first), false);
         first.first(true);
         isMade("the first frame's", readAgain(first), true);
         for (int count : new int[] {1, 2, 8}) {

@@ -78,6 +78,16 @@ final class FaultEdgeTest {
         for (int n = 8; n < right.length; n++) {
             fault("cut at " + n, cut(right, n), 2, n);
         }
+        // A full tape: nothing that is looked for lies behind it.
+        for (int left = 0; left < 20; left++) {
+            for (int filling = left < 12 ? 0 : 1; filling < 3; filling++) {
+                byte[] rest = new byte[left];
+                Arrays.fill(rest, (byte) filling);
+                Made file = new Made().head(1, 1);
+                file.chunk("abcd", new byte[8000 - 12 - left - file.size()]).raw(rest);
+                due.fault(left + " bytes left", file, 2, 8000);
+            }
+        }
         for (String type : TYPES) {
             // Its type or its place is wrong too, and a picture before it; that is not seen yet.
             byte[] file = Made.beforeDot().data(BAD_PACKED).chunk(type, new byte[4]).bytes();

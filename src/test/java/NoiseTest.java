@@ -12,7 +12,7 @@ final class NoiseTest {
         Random random = new Random(77);
         for (int turn = 0; turn < 2000; turn++) {
             FrameReel reel = new FrameReel();
-            for (int call = 0; call < 150; call++) {
+            for (int call = 0; call < 110; call++) {
                 due.is("a call without sense", call(reel, random) ? 1 : 0, 1);
             }
         }

@@ -16,11 +16,15 @@ final class ShowTest {
     }
 
     private static int blended(int under, int over) {
+        return shownOver(under, over, 1);
+    }
+
+    private static int shownOver(int under, int over, int blend) {
         FrameReel reel = new FrameReel();
         reel.begin(1, 1, 0);
         reel.frame(1, 1, 0, 0, 0, 0);
         reel.paint(0, 0, 0, under);
-        reel.frame(1, 1, 0, 0, 0, 1);
+        reel.frame(1, 1, 0, 0, 0, blend);
         reel.paint(1, 0, 0, over);
         reel.show(1);
         return reel.pixel(0, 0);
@@ -36,18 +40,7 @@ final class ShowTest {
         // v = 1 * 255 + 254 * 1 = 509, alpha 1; red 255 * 255 / 509 = 127.7, cut.
         due.is("all is cut", blended(0x00000001, 0xFF000001), 0x7F000001);
         due.is("the greatest", blended(0xFFFFFFFF, 0xFFFFFFFE), 0xFFFFFFFF);
-        due.is("blend 0 is as it is", plain(0x11223344, 0x55667700), 0x55667700);
-    }
-
-    private static int plain(int under, int over) {
-        FrameReel reel = new FrameReel();
-        reel.begin(1, 1, 0);
-        reel.frame(1, 1, 0, 0, 0, 0);
-        reel.paint(0, 0, 0, under);
-        reel.frame(1, 1, 0, 0, 0, 0);
-        reel.paint(1, 0, 0, over);
-        reel.show(1);
-        return reel.pixel(0, 0);
+        due.is("blend 0 is as it is", shownOver(0x11223344, 0x55667700, 0), 0x55667700);
     }
 
     private static void disposeByHand() {
