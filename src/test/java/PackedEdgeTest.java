@@ -21,6 +21,7 @@ final class PackedEdgeTest {
         kindThree();
         codeOrder();
         moreOrFewer();
+        moreBehindRightOnes();
         distancesAlone();
         noCode();
         bytesAndEnd();
@@ -334,6 +335,42 @@ final class PackedEdgeTest {
             BitRow row = new BitRow().block(true, 2).tellers(258, 1, tellerLengths(pairs));
             fault("tellers " + Arrays.toString(pairs), row.number(0, 16).number(0, 16).end(DOT));
         }
+    }
+
+    /** The codes of the block before would do for what comes, if nobody looked at the new ones. */
+    private static void moreBehindRightOnes() {
+        due.sentence("It is a fault if there are more codes than there can be");
+        int[] few = BitRow.fewSymbols();
+        int[] pair = {1, 1};
+        fine("as many as before", secondTold(few, pair, few, pair));
+        for (int length = 3; length <= 15; length++) {
+            int[] more = Arrays.copyOf(few, 259);
+            more[258] = length;
+            fault("a symbol more, of " + length, secondTold(few, pair, more, pair));
+            fault("a distance more, of " + length,
+                secondTold(few, pair, few, new int[] {1, 1, length}));
+        }
+        for (int teller = 15; teller <= 18; teller++) {
+            for (int length = 4; length <= 7; length++) {
+                int[] tellers = new int[19];
+                Arrays.fill(tellers, 0, 16, 4);
+                tellers[teller] = length;
+                BitRow row = new BitRow().block(false, 2).told(few, new int[1])
+                    .coded(few, 0, 256).block(true, 2).tellers(258, 1, tellers);
+                for (int told : few) {
+                    row.code(told, 4);
+                }
+                row.code(0, 4).coded(few, 1, 2, 3, 4, 256);
+                fineIf(isFull(tellers), "teller " + teller + " of " + length, row.end(DOT));
+            }
+        }
+    }
+
+    /** The bytes of a dot and a match, in the codes that the first of two told blocks tells. */
+    private static byte[] secondTold(int[] s, int[] d, int[] secondS, int[] secondD) {
+        return new BitRow().block(false, 2).told(s, d).coded(s, 0, 256)
+            .block(true, 2).told(secondS, secondD).coded(s, 1, 257).code(1, 1).coded(s, 256)
+            .end(new byte[] {0, 1, 0, 1, 0});
     }
 
     private static int[] tellerLengths(int... pairs) {
