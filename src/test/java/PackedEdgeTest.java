@@ -22,6 +22,7 @@ final class PackedEdgeTest {
         codeOrder();
         moreOrFewer();
         moreBehindRightOnes();
+        wrongCountsBehindRightOnes();
         distancesAlone();
         noCode();
         bytesAndEnd();
@@ -363,6 +364,20 @@ final class PackedEdgeTest {
                 row.code(0, 4).coded(few, 1, 2, 3, 4, 256);
                 fineIf(isFull(tellers), "teller " + teller + " of " + length, row.end(DOT));
             }
+        }
+    }
+
+    /** Behind wrong counts the tellers of the block before would do, too. */
+    private static void wrongCountsBehindRightOnes() {
+        due.sentence("how many symbols (286 at most) .. how many distances (30 at most)");
+        int[] few = BitRow.fewSymbols();
+        for (int[] counts : new int[][] {{287, 1}, {288, 1}, {258, 31}, {258, 32}}) {
+            BitRow row = new BitRow().block(false, 2).told(few, new int[1]).coded(few, 0, 256)
+                .block(true, 2).number(counts[0] - 257, 5).number(counts[1] - 1, 5).number(15, 4);
+            for (int told : Arrays.copyOf(few, counts[0] + counts[1])) {
+                row.code(told, 4);
+            }
+            fault(Arrays.toString(counts), row.coded(few, 1, 2, 3, 4, 256).end(DOT));
         }
     }
 
